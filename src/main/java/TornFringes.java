@@ -83,7 +83,7 @@ public final class TornFringes {
             return NOT_SO;
         }
         acts.keep(now);
-        now.chart.phases[pixel] = wrapped(v);
+        now.chart.phases[pixel] = Chart.wrapped(v);
         now.lay.clear();
         return now.chart.phases[pixel];
     }
@@ -130,7 +130,7 @@ public final class TornFringes {
         acts.keep(now);
         Chart chart = now.chart;
         for (int p = 0; p < chart.pixels(); p++) {
-            chart.phases[p] = wrapped(chart.phases[p] + a * chart.rowOf(p) + b * chart.colOf(p));
+            chart.phases[p] = Chart.wrapped(chart.phases[p] + a * chart.rowOf(p) + b * chart.colOf(p));
         }
         now.lay.clear();
         return true;
@@ -144,7 +144,7 @@ public final class TornFringes {
         for (int i = 0; i < n; i++) {
             int p = draw(now.chart.pixels());
             int more = draw(65) - 32;
-            now.chart.phases[p] = wrapped(now.chart.phases[p] + more);
+            now.chart.phases[p] = Chart.wrapped(now.chart.phases[p] + more);
         }
         now.lay.clear();
         return true;
@@ -621,14 +621,6 @@ public final class TornFringes {
         return n >= LEAST_SIDE && n <= MOST_SIDE;
     }
 
-    private static int wrapped(int v) {
-        int left = v % TURN;
-        if (left > HALF_TURN) {
-            return left - TURN;
-        }
-        return left < -HALF_TURN ? left + TURN : left;
-    }
-
     private int draw(int m) {
         drawn = drawn * 1664525 + 1013904223;
         return m > 0 ? (drawn >>> 8) % m : 0;
@@ -749,6 +741,14 @@ public final class TornFringes {
 
         boolean isShut(int e) {
             return hidden[tail(e)] || hidden[tip(e)];
+        }
+
+        static int wrapped(int v) {
+            int left = v % TURN;
+            if (left > HALF_TURN) {
+                return left - TURN;
+            }
+            return left < -HALF_TURN ? left + TURN : left;
         }
 
         int stepFrom(int a, int b) {
@@ -1859,7 +1859,7 @@ public final class TornFringes {
                 if (bytes[at] == '.') {
                     chart.hidden[p] = true;
                 } else {
-                    chart.phases[p] = wrapped(digitOf(bytes[at]) * 16 + digitOf(bytes[at + 1]) - 128);
+                    chart.phases[p] = Chart.wrapped(digitOf(bytes[at]) * 16 + digitOf(bytes[at + 1]) - 128);
                 }
                 at += 2;
             }

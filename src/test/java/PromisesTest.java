@@ -55,6 +55,7 @@ public final class PromisesTest {
         would();
         apart();
         undo();
+        undoOfLaid();
         undoOfEachAct();
         log();
         image();
@@ -1303,6 +1304,34 @@ public final class PromisesTest {
         TornFringes z = new TornFringes();
         due("none laid", z.power(MIN, Long.MAX_VALUE), 0);
         due("none laid", z.power(5, -1), -1);
+        flood(z);
+        due("all together beyond", z.power(MIN, 0), -1);
+        due("all together beyond", z.power(MAX, 0), -1);
+        greatestPower();
+    }
+
+    /** Four squares that are 9223372036854775807 together. */
+    private static void greatestPower() {
+        int level = -1600000000;
+        long[] roots = {3037000499L, 76994, 23, 671};
+        TornFringes x = sized(2, 2);
+        for (int p = 0; p < 4; p++) {
+            x.phase(p, (int) (roots[p] + level));
+        }
+        for (int e : new int[] {0, 1, 3, 4}) {
+            x.cut(e, true);
+        }
+        flood(x);
+        for (int p = 0; p < 4; p++) {
+            long lacking = roots[p] + level - x.height(p);
+            due("lift", x.lift(p, (int) (lacking / 255)), true);
+            due("height", x.height(p), roots[p] + level);
+        }
+        due("the greatest", x.power(level, 1), Long.MAX_VALUE);
+        due("nothing of it", x.power(level, 0), 0);
+        due("twice", x.power(level, 2), -1);
+        x.lift(1, 1);
+        due("beyond", x.power(level, 0), -1);
     }
 
     private static void range() {
@@ -1514,6 +1543,44 @@ public final class PromisesTest {
         due("undo", x.undo(), 0);
         due("laid", x.look(6), 16);
         due("not flooding", x.look(8), 0);
+    }
+
+    private static void undoOfLaid() {
+        checks.about("39, what is laid");
+        TornFringes x = sized(3, 4);
+        x.ramp(30, 50);
+        x.cut(4, true);
+        x.cut(12, true);
+        x.cut(20, true);
+        x.grade(11, 70);
+        flood(x);
+        x.lift(1, 3);
+        int[][] was = laidOf(x);
+        x.grade(0, 99);
+        x.grade(6, 99);
+        x.cut(9, true);
+        flood(x);
+        x.lift(0, 7);
+        x.undo();
+        x.undo();
+        x.undo();
+        x.undo();
+        due("begun elsewhere", x.island(0, 0), 11);
+        int[][] is = laidOf(x);
+        for (int i = 0; i < was.length; i++) {
+            for (int k = 0; k < was[i].length; k++) {
+                due("laid " + i + " " + k, is[i][k], was[i][k]);
+            }
+        }
+    }
+
+    private static int[][] laidOf(TornFringes x) {
+        int[][] all = new int[13][];
+        for (int p = 0; p < 12; p++) {
+            all[p] = new int[] {x.pixel(p, 3), x.pixel(p, 4), x.pixel(p, 5), x.pixel(p, 6), x.pixel(p, 7), x.height(p)};
+        }
+        all[12] = new int[] {x.island(0, 0), x.island(1, 0), x.island(0, 2), x.island(1, 2), x.look(6), x.look(7)};
+        return all;
     }
 
     private static void undoOfEachAct() {
