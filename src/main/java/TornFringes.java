@@ -1454,7 +1454,8 @@ public final class TornFringes {
             if (!lay.isLaid(a) || !lay.isLaid(b)) {
                 return false;
             }
-            return lay.heights[b] - lay.heights[a] != chart.stepFrom(a, b);
+            // As numbers: at the ends of the ints a difference taken in ints comes round to a step.
+            return (long) lay.heights[b] - lay.heights[a] != chart.stepFrom(a, b);
         }
 
         int countJumps() {

@@ -291,13 +291,17 @@ final class Model {
         }
 
         boolean jump(int e) {
-            return !shut(e) && !cut(e) && laid[e / 2] && laid[other(e)]
-                && height[other(e)] - height[e / 2] != step(e / 2, other(e));
+            return !shut(e) && !cut(e) && laid[e / 2] && laid[other(e)] && differs(e);
         }
 
         boolean tear(int e) {
             return !shut(e) && cut(e) && laid[e / 2] && laid[other(e)] && isle[e / 2] == isle[other(e)]
-                && height[other(e)] - height[e / 2] != step(e / 2, other(e));
+                && differs(e);
+        }
+
+        /** As numbers, not as ints that come round. */
+        boolean differs(int e) {
+            return (long) height[other(e)] - height[e / 2] != step(e / 2, other(e));
         }
 
         int jumps() {

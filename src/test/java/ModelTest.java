@@ -133,9 +133,7 @@ public final class ModelTest {
 
     private void tellMore(int draw) {
         if (draw < 83) {
-            int island = below(y.m.starts.size());
-            int turns = random.nextInt(4) == 0 ? any() / 255 : random.nextInt(9) - 4;
-            due("lift " + island + " " + turns, x.lift(island, turns), y.lift(island, turns));
+            liftSome();
         } else if (draw < 88) {
             due("settle", x.settle(), y.settle());
         } else if (draw < 91) {
@@ -152,6 +150,37 @@ public final class ModelTest {
             int p = below(pixels());
             due("phase " + p, x.phase(p, 0), y.phase(p, 0));
         }
+    }
+
+    private void liftSome() {
+        int island = below(y.m.starts.size());
+        int turns = random.nextInt(4) == 0 ? any() / 255 : random.nextInt(9) - 4;
+        boolean toTheEnd = random.nextInt(4) == 0 && y.island(island);
+        if (toTheEnd) {
+            turns = turnsToAnEnd(island, random.nextBoolean());
+        }
+        due("lift " + island + " " + turns, x.lift(island, turns), y.lift(island, turns));
+        if (toTheEnd && y.m.flooding) {
+            int n = 1 + random.nextInt(9);
+            due("step at the end of the ints " + n, x.step(n), y.step(n));
+            for (int e = 0; e < 2 * pixels(); e++) {
+                due("jump " + e, x.edge(e, 4), y.edge(e, 4));
+                due("tear " + e, x.edge(e, 5), y.edge(e, 5));
+            }
+        }
+    }
+
+    /** By how many turns an island can just be lifted, or one more. */
+    private int turnsToAnEnd(int island, boolean up) {
+        long turns = Integer.MAX_VALUE;
+        for (int p = 0; p < pixels(); p++) {
+            if (y.m.laid[p] && y.m.isle[p] == island) {
+                long left = up ? Integer.MAX_VALUE - (long) y.m.height[p] : (long) y.m.height[p] - Integer.MIN_VALUE;
+                turns = Math.min(turns, left / 255);
+            }
+        }
+        turns += random.nextInt(6) == 0 ? 1 : 0;
+        return (int) (up ? turns : -turns);
     }
 
     private void feedText() {

@@ -38,6 +38,8 @@ public final class PromisesTest {
         pixel();
         height();
         edge();
+        jumpsAtTheEnds();
+        tearsAtTheEnds();
         charge();
         torn();
         far();
@@ -1030,6 +1032,78 @@ public final class PromisesTest {
             most = Math.max(most, z.edge(e, 2));
         }
         due("over one twice", most, 2);
+    }
+
+    /** Of maps whose pixel 0 alone is laid, and then lifted by so many turns. */
+    private static TornFringes laidAndLifted(TornFringes x, int turns) {
+        x.begin();
+        x.step(1);
+        due("begins at 0", x.pixel(0, 7), 1);
+        due("lift", x.lift(0, turns), true);
+        return x;
+    }
+
+    private static void jumpsAtTheEnds() {
+        checks.about("22, jumps at the ends of the ints");
+        // 0 stands at 2147483521: to 1 it is 127 more, 2147483648, which is no int.
+        TornFringes x = laidAndLifted(of(2, 2, 1, -127, 1, 1), 8421504);
+        due("the last but 126", x.height(0), MAX - 126);
+        due("step", x.step(1), 1);
+        due("step 0-1", x.edge(0, 0), 127);
+        due("jump", x.edge(0, 4), 1);
+        due("no tear", x.edge(0, 5), 0);
+        due("jumps", x.look(9), 1);
+        due("tears", x.look(10), 0);
+        due("the rest", x.step(144), 2);
+        due("no jump 0-2", x.edge(1, 4), 0);
+        due("jumps", x.look(9), x.edge(0, 4) + x.edge(3, 4) + x.edge(4, 4));
+        due("the flood ends", x.log(0, 0), 2);
+        due("islands", x.log(0, 1), 1);
+        due("its jumps", x.log(0, 2), x.look(9));
+        due("none in thought", x.would(0, 1), 0);
+        // The same at the least int: -2147483522 and -127.
+        TornFringes y = laidAndLifted(of(2, 2, -2, 126, -2, -2), -8421504);
+        y.step(1);
+        due("step 0-1", y.edge(0, 0), -127);
+        due("jump", y.edge(0, 4), 1);
+        due("jumps", y.look(9), 1);
+        // To the very last ints all fits.
+        TornFringes up = laidAndLifted(of(2, 2, 0, 127, 0, 0), 8421504);
+        up.step(144);
+        due("the greatest int", up.height(1), MAX);
+        due("no jumps", up.look(9), 0);
+        due("none told", up.log(0, 2), 0);
+        TornFringes down = laidAndLifted(of(2, 2, -1, 127, -1, -1), -8421504);
+        down.step(144);
+        due("the least int", down.height(1), MIN);
+        due("no jumps", down.look(9), 0);
+    }
+
+    private static void tearsAtTheEnds() {
+        checks.about("22, tears at the ends of the ints");
+        // Laid 0, 2, 3, 1 by steps of 42, 42, 43; the cut edge from 0 to 1 is 127, all of them together.
+        TornFringes x = of(2, 2, 1, -127, 43, 85);
+        x.cut(0, true);
+        laidAndLifted(x, 8421504);
+        due("the rest", x.step(144), 3);
+        due("by way of 2, 3", x.pixel(1, 6), 3);
+        due("step 0-1", x.edge(0, 0), 127);
+        due("tear", x.edge(0, 5), 1);
+        due("no jump", x.edge(0, 4), 0);
+        due("tears", x.look(10), 1);
+        due("jump 1-3", x.edge(3, 4), 1);
+        due("jumps", x.look(9), 1);
+        due("told", x.log(0, 2), 1);
+        due("none in thought", x.would(0, 2), 0);
+        // Where all are ints, it is none.
+        TornFringes y = of(2, 2, 0, 127, 42, 84);
+        y.cut(0, true);
+        laidAndLifted(y, 8421504);
+        y.step(144);
+        due("the greatest int", y.height(1), MAX);
+        due("no tear", y.edge(0, 5), 0);
+        due("no tears", y.look(10), 0);
+        due("no jumps", y.look(9), 0);
     }
 
     private static void charge() {
