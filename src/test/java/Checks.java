@@ -20,6 +20,20 @@ final class Checks {
         due(call, got ? 1 : 0, want ? 1 : 0);
     }
 
+    /** All that can be asked of an object is answered as it was before. */
+    void same(String what, TornFringes x, Everything before) {
+        same(what, before, Everything.of(x));
+    }
+
+    void same(String what, Everything before, Everything now) {
+        all++;
+        String other = now.otherThan(before);
+        if (!other.isEmpty()) {
+            wrong++;
+            System.out.println(about + ": " + what + ": " + other);
+        }
+    }
+
     int wrong() {
         return wrong;
     }

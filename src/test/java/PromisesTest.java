@@ -73,76 +73,6 @@ public final class PromisesTest {
         checks.due(call, got, want);
     }
 
-    // ---- maps that the tests begin with ----
-
-    private static TornFringes sized(int r, int c) {
-        TornFringes x = new TornFringes();
-        due("size", x.size(r, c), true);
-        return x;
-    }
-
-    /** A map whose phases are these, row by row. */
-    private static TornFringes of(int r, int c, int... phases) {
-        TornFringes x = sized(r, c);
-        for (int p = 0; p < phases.length; p++) {
-            if (phases[p] != 0) {
-                x.phase(p, phases[p]);
-            }
-        }
-        return x;
-    }
-
-    /** 4 by 4: ring 0 is 1, ring 4 is -1, no other ring is torn. */
-    private static TornFringes pair() {
-        return of(4, 4, 0, 64, 0, 0, -64, 127);
-    }
-
-    /** Turns round the ring at a row and column by so many quarters: its charge becomes 1 or -1. */
-    private static TornFringes vortices(int r, int c, int... rings) {
-        TornFringes x = sized(r, c);
-        for (int p = 0; p < r * c; p++) {
-            double angle = 0;
-            for (int ring : rings) {
-                int at = Math.abs(ring) - 1;
-                double down = p / c - (at / c + 0.5);
-                double right = p % c - (at % c + 0.5);
-                angle += Math.signum(ring) * Math.atan2(down, right);
-            }
-            x.phase(p, (int) Math.round(angle / (2 * Math.PI) * 255));
-        }
-        due("vortices", x.look(3), rings.length);
-        return x;
-    }
-
-    private static void flood(TornFringes x) {
-        x.begin();
-        x.step(144);
-    }
-
-    private static void tell(TornFringes x, String told) {
-        StringBuilder whole = new StringBuilder(told);
-        while (whole.length() % 20 > 0) {
-            whole.append('\0');
-        }
-        int was = x.look(13);
-        for (int i = 0; i < whole.length(); i += 20) {
-            int[] v = new int[5];
-            for (int k = 0; k < 20; k++) {
-                v[k / 4] = v[k / 4] << 8 | whole.charAt(i + k);
-            }
-            due("feed", x.feed(v[0], v[1], v[2], v[3], v[4]), was + i + 20);
-        }
-        due("end", x.end(was + told.length()), true);
-    }
-
-    private static TornFringes told(String told) {
-        TornFringes x = new TornFringes();
-        tell(x, told);
-        x.text();
-        due("fault of " + told, x.fault(), -1);
-        return x;
-    }
-
     // ---- 1 to 9 ----
 
     private static void newObject() {
@@ -167,13 +97,13 @@ public final class PromisesTest {
 
     private static void size() {
         checks.about("2");
-        TornFringes x = pair();
+        TornFringes x = Maps.pair();
         x.state(9);
         x.join(0);
         x.cut(3, true);
         x.hide(9, true);
         x.grade(3, 7);
-        flood(x);
+        Maps.flood(x);
         int lines = x.look(14);
         x.feed(1, 2, 3, 4, 5);
         x.image(true);
@@ -203,7 +133,7 @@ public final class PromisesTest {
 
     private static void phase() {
         checks.about("3");
-        TornFringes x = sized(3, 5);
+        TornFringes x = Maps.sized(3, 5);
         int[][] wraps = {{0, 0}, {127, 127}, {128, -127}, {-127, -127}, {-128, 127}, {255, 0}, {-255, 0},
             {254, -1}, {-254, 1}, {382, 127}, {383, -127}, {MAX, 127}, {MIN, -128 + 255}};
         for (int[] wrap : wraps) {
@@ -214,7 +144,7 @@ public final class PromisesTest {
         for (int p : new int[] {-1, 15, MIN, MAX}) {
             due("phase of " + p, x.phase(p, 1), -1000);
         }
-        flood(x);
+        Maps.flood(x);
         due("none such: laid stays", x.phase(15, 1), -1000);
         due("laid", x.look(6), 15);
         due("the same phase", x.phase(3, 0), 0);
@@ -227,8 +157,8 @@ public final class PromisesTest {
 
     private static void hide() {
         checks.about("4");
-        TornFringes x = pair();
-        flood(x);
+        TornFringes x = Maps.pair();
+        Maps.flood(x);
         due("not hidden already", x.hide(5, false), false);
         due("none such", x.hide(16, true), false);
         due("none such", x.hide(-1, true), false);
@@ -250,7 +180,7 @@ public final class PromisesTest {
     private static void grade() {
         checks.about("5");
         TornFringes x = new TornFringes();
-        flood(x);
+        Maps.flood(x);
         due("grade", x.grade(15, 0), true);
         due("is", x.pixel(15, 1), 0);
         due("grade", x.grade(15, 99), true);
@@ -268,7 +198,7 @@ public final class PromisesTest {
 
     private static void gradesBySteps() {
         checks.about("6");
-        TornFringes x = of(2, 3, 0, 10, 30, 3, 100, 0);
+        TornFringes x = Maps.of(2, 3, 0, 10, 30, 3, 100, 0);
         // Steps: 0-1 10, 1-2 20, 3-4 97, 4-5 -100, 0-3 3, 1-4 90, 2-5 -30.
         due("how 1", x.grades(1), 93 + 59 + 74 + 49 + 4 + 34);
         int[] due = {99 - 13 / 2, 99 - 120 / 3, 99 - 50 / 2, 99 - 100 / 2, 99 - 287 / 3, 99 - 130 / 2};
@@ -287,9 +217,9 @@ public final class PromisesTest {
         due("another how", x.grades(3), -1);
         due("another how", x.grades(-1), -1);
         due("another how", x.grades(MIN), -1);
-        TornFringes y = of(2, 2, 0, 127, 0, 127);
+        TornFringes y = Maps.of(2, 2, 0, 127, 0, 127);
         due("0 at least", y.grades(1), 4 * 36);
-        y = of(2, 2, 0, 127, -127, 0);
+        y = Maps.of(2, 2, 0, 127, -127, 0);
         due("0 at least", y.grades(1), 0);
         y.cut(0, true);
         due("cut edges count", y.grades(1), 0);
@@ -297,8 +227,8 @@ public final class PromisesTest {
 
     private static void gradesByTorn() {
         checks.about("6, how 2");
-        TornFringes x = pair();
-        flood(x);
+        TornFringes x = Maps.pair();
+        Maps.flood(x);
         // Torn 0 and 4: pixel 15 is 3 right of column 0 and 2 below row 1.
         int sum = 0;
         for (int p = 0; p < 16; p++) {
@@ -314,7 +244,7 @@ public final class PromisesTest {
         due("hidden", x.pixel(15, 1), 0);
         TornFringes y = new TornFringes();
         due("without any", y.grades(2), 16 * 99);
-        TornFringes z = vortices(12, 12, 1);
+        TornFringes z = Maps.vortices(12, 12, 1);
         z.grades(2);
         due("99 at most", z.pixel(143, 1), 99);
         due("11 away", z.pixel(11, 1), 99);
@@ -323,8 +253,8 @@ public final class PromisesTest {
 
     private static void ramp() {
         checks.about("7");
-        TornFringes x = of(2, 3, 5);
-        flood(x);
+        TornFringes x = Maps.of(2, 3, 5);
+        Maps.flood(x);
         for (int wrong : new int[] {1000, -1000, MIN, MAX}) {
             due("ramp", x.ramp(wrong, 0), false);
             due("ramp", x.ramp(0, wrong), false);
@@ -340,18 +270,18 @@ public final class PromisesTest {
         due("back", x.pixel(5, 0), 0);
         due("nothing more", x.ramp(0, 0), true);
         due("acts", x.look(12), 5);
-        TornFringes big = sized(12, 12);
+        TornFringes big = Maps.sized(12, 12);
         due("ramp", big.ramp(999, 999), true);
         due("the last", big.pixel(143, 0), 999 * 22 % 255);
     }
 
     private static void noiseAndState() {
         checks.about("8, 9");
-        TornFringes x = sized(5, 7);
+        TornFringes x = Maps.sized(5, 7);
         due("state", x.state(12345), 0);
         due("state", x.state(-7), 12345);
         due("state", x.state(MIN), -7);
-        flood(x);
+        Maps.flood(x);
         for (int wrong : new int[] {0, -1, 61, MAX, MIN}) {
             due("noise", x.noise(wrong), false);
         }
@@ -381,8 +311,8 @@ public final class PromisesTest {
 
     private static void joinLeast() {
         checks.about("10 least");
-        TornFringes x = pair();
-        flood(x);
+        TornFringes x = Maps.pair();
+        Maps.flood(x);
         for (int wrong : new int[] {2, -1, MIN, MAX}) {
             due("join", x.join(wrong), -1);
         }
@@ -408,12 +338,12 @@ public final class PromisesTest {
         checks.about("10 least, of several");
         // Rings 25 (row 2, column 3) and 33 (row 3, column 3) of 8 by 8, the other charge at
         // row 2, column 5: to the border 3, 3 and 2; between the two unlike ones 2.
-        TornFringes x = vortices(8, 8, 1 + 2 * 8 + 3, -(1 + 2 * 8 + 5));
+        TornFringes x = Maps.vortices(8, 8, 1 + 2 * 8 + 3, -(1 + 2 * 8 + 5));
         due("join", x.join(0), 2);
         due("together", x.joined(0, 1), 2 * 8 + 5);
         due("along the row", x.edge(2 * 20 + 1, 2) + x.edge(2 * 21 + 1, 2), 2);
         // At row 0 both are 1 from the border: 2 in all, as far as from one to the other.
-        TornFringes y = vortices(6, 6, 1 + 1, -(1 + 3));
+        TornFringes y = Maps.vortices(6, 6, 1 + 1, -(1 + 3));
         due("join", y.join(0), 2);
         due("the border ahead", y.joined(0, 1), -1);
         due("both", y.joined(1, 1), -1);
@@ -421,7 +351,7 @@ public final class PromisesTest {
         due("nearest, too", y.join(1), 2);
         due("both", y.joined(-1, 0), 2);
         // Four in the midst, each 1 from two of the other charge: the least partner.
-        TornFringes z = vortices(12, 12, 1 + 5 * 12 + 5, -(1 + 5 * 12 + 6), -(1 + 6 * 12 + 5), 1 + 6 * 12 + 6);
+        TornFringes z = Maps.vortices(12, 12, 1 + 5 * 12 + 5, -(1 + 5 * 12 + 6), -(1 + 6 * 12 + 5), 1 + 6 * 12 + 6);
         due("join", z.join(0), 2);
         due("least partner", z.joined(0, 1), 5 * 12 + 6);
         due("the others", z.joined(1, 0), 6 * 12 + 5);
@@ -430,7 +360,7 @@ public final class PromisesTest {
 
     private static void joinNearest() {
         checks.about("10 nearest");
-        TornFringes x = pair();
+        TornFringes x = Maps.pair();
         due("join", x.join(1), 2);
         due("border", x.joined(0, 1), -1);
         due("border", x.joined(1, 1), -1);
@@ -438,7 +368,7 @@ public final class PromisesTest {
         due("leftwards", x.edge(9, 2), 1);
         // In row 4 of 10 by 12 columns 2 (+), 4 (-), 5 (+), 8 (-): 4 and 5 first (1), then
         // 2 to the left border (3), 8 to the right one (3), though both could be 6 together.
-        TornFringes y = vortices(10, 12, 1 + 48 + 2, -(1 + 48 + 4), 1 + 48 + 5, -(1 + 48 + 8));
+        TornFringes y = Maps.vortices(10, 12, 1 + 48 + 2, -(1 + 48 + 4), 1 + 48 + 5, -(1 + 48 + 8));
         due("join", y.join(1), 7);
         due("first", y.joined(0, 0), 50);
         due("border", y.joined(0, 1), -1);
@@ -455,12 +385,12 @@ public final class PromisesTest {
 
     private static void joinMany() {
         checks.about("10, many");
-        TornFringes x = sized(12, 12);
+        TornFringes x = Maps.sized(12, 12);
         for (int p = 0; p < 144; p++) {
             x.phase(p, p * p * 37 + p * 91);
         }
         due("more than 12 torn", x.look(3) > 12, true);
-        flood(x);
+        Maps.flood(x);
         int acts = x.look(12);
         int lines = x.look(14);
         due("least can't be", x.join(0), -1);
@@ -487,41 +417,41 @@ public final class PromisesTest {
         if (count > 12) {
             rings[12] = 1 + 5 * 12 + 5;
         }
-        return vortices(12, 12, rings);
+        return Maps.vortices(12, 12, rings);
     }
 
     private static void joinToSides() {
         checks.about("10, sides");
         // The midst of 4 by 4 is 2 from all four: up. Row 1, column 1: edges 1-2 and 5-6.
-        TornFringes x = vortices(4, 4, 1 + 5);
+        TornFringes x = Maps.vortices(4, 4, 1 + 5);
         due("join", x.join(0), 2);
         due("up", x.edge(2 * 1, 2), 1);
         due("up", x.edge(2 * 5, 2), 1);
         due("edges", x.look(5), 2);
         // Row 3 of 6 by 8, column 3: 4 up, 2 down, 4 left, 4 right.
-        TornFringes y = vortices(6, 8, 1 + 3 * 8 + 3);
+        TornFringes y = Maps.vortices(6, 8, 1 + 3 * 8 + 3);
         due("join", y.join(1), 2);
         due("down", y.edge(2 * (4 * 8 + 3), 2), 1);
         due("down", y.edge(2 * (5 * 8 + 3), 2), 1);
         due("edges", y.look(5), 2);
         // Row 3 of 8 by 5, column 1: 4 up, 4 down, 2 left, 3 right.
-        TornFringes z = vortices(8, 5, 1 + 3 * 5 + 1);
+        TornFringes z = Maps.vortices(8, 5, 1 + 3 * 5 + 1);
         due("join", z.join(0), 2);
         due("left", z.edge(2 * (3 * 5) + 1, 2), 1);
         due("left", z.edge(2 * (3 * 5 + 1) + 1, 2), 1);
         due("edges", z.look(5), 2);
         // Row 3 of 8 by 5, column 2: right, 2 away.
-        TornFringes w = vortices(8, 5, 1 + 3 * 5 + 2);
+        TornFringes w = Maps.vortices(8, 5, 1 + 3 * 5 + 2);
         due("join", w.join(0), 2);
         due("right", w.edge(2 * (3 * 5 + 3) + 1, 2), 1);
         due("right", w.edge(2 * (3 * 5 + 4) + 1, 2), 1);
         due("edges", w.look(5), 2);
         // Row 2 of 6 by 12, column 2: 3 up, 3 down, 3 left: up. Row 2, column 9 of 5 by 12: down.
-        TornFringes v = vortices(6, 12, 1 + 2 * 12 + 2);
+        TornFringes v = Maps.vortices(6, 12, 1 + 2 * 12 + 2);
         due("join", v.join(0), 3);
         due("up", v.edge(2 * 2, 2), 1);
         // From row 4, column 6 along its row to column 3, then down to row 6.
-        TornFringes u = vortices(12, 12, 1 + 4 * 12 + 6, -(1 + 6 * 12 + 4));
+        TornFringes u = Maps.vortices(12, 12, 1 + 4 * 12 + 6, -(1 + 6 * 12 + 4));
         due("join", u.join(0), 4);
         int[] over = {2 * (4 * 12 + 6) + 1, 2 * (4 * 12 + 5) + 1, 2 * (5 * 12 + 4), 2 * (6 * 12 + 4)};
         for (int e : over) {
@@ -529,7 +459,7 @@ public final class PromisesTest {
         }
         due("edges", u.look(5), 4);
         // To the right, then down.
-        TornFringes t = vortices(12, 12, 1 + 4 * 12 + 4, -(1 + 5 * 12 + 6));
+        TornFringes t = Maps.vortices(12, 12, 1 + 4 * 12 + 4, -(1 + 5 * 12 + 6));
         due("join", t.join(1), 3);
         int[] there = {2 * (4 * 12 + 5) + 1, 2 * (4 * 12 + 6) + 1, 2 * (5 * 12 + 6)};
         for (int e : there) {
@@ -539,7 +469,7 @@ public final class PromisesTest {
 
     private static void joinStays() {
         checks.about("10, stays");
-        TornFringes x = pair();
+        TornFringes x = Maps.pair();
         x.join(0);
         x.ramp(3, 4);
         for (int p = 0; p < 16; p++) {
@@ -556,9 +486,9 @@ public final class PromisesTest {
 
     private static void cut() {
         checks.about("11");
-        TornFringes x = pair();
+        TornFringes x = Maps.pair();
         x.join(0);
-        flood(x);
+        Maps.flood(x);
         due("not so already", x.cut(8, false), false);
         for (int none : new int[] {6, 25, 31, 32, -1, MIN, MAX}) {
             due("no edge " + none, x.cut(none, true), false);
@@ -584,7 +514,7 @@ public final class PromisesTest {
 
     private static void begin() {
         checks.about("12");
-        TornFringes x = pair();
+        TornFringes x = Maps.pair();
         due("begin", x.begin(), 16);
         due("flooding", x.look(8), 1);
         due("acts", x.look(12), 5 - 1);
@@ -595,7 +525,7 @@ public final class PromisesTest {
         due("moves", x.step(144), 16);
         x.hide(3, true);
         due("less hidden", x.begin(), 15);
-        TornFringes y = told("....;....");
+        TornFringes y = Maps.told("....;....");
         due("none", y.begin(), 0);
         due("not flooding", y.look(8), 0);
         due("step", y.step(1), -1);
@@ -628,8 +558,8 @@ public final class PromisesTest {
         y.begin();
         due("just all", y.step(16), 16);
         due("ended", y.look(8), 0);
-        TornFringes z = pair();
-        flood(z);
+        TornFringes z = Maps.pair();
+        Maps.flood(z);
         due("jumps without cuts", z.log(0, 2) > 0, true);
         due("jumps", z.log(0, 2), z.look(9));
         due("not an act", z.look(12), 4);
@@ -637,7 +567,7 @@ public final class PromisesTest {
 
     private static void stepOrder() {
         checks.about("13, order");
-        TornFringes x = of(3, 3, 1, 2, 3, 4, 5, 6, 7, 8, 9);
+        TornFringes x = Maps.of(3, 3, 1, 2, 3, 4, 5, 6, 7, 8, 9);
         x.grade(8, 90);
         x.grade(2, 90);
         x.grade(5, 20);
@@ -665,7 +595,7 @@ public final class PromisesTest {
         y.step(1);
         due("1 ahead of 5 and 8", y.pixel(1, 7), 3);
         // A new island begins at the greatest grade of what is left.
-        TornFringes z = sized(2, 4);
+        TornFringes z = Maps.sized(2, 4);
         z.hide(2, true);
         z.hide(6, true);
         z.grade(7, 51);
@@ -683,7 +613,7 @@ public final class PromisesTest {
 
     private static void lift() {
         checks.about("14");
-        TornFringes x = islands();
+        TornFringes x = Maps.islands();
         int lines = x.look(14);
         int acts = x.look(12);
         for (int none : new int[] {-1, 2, MIN, MAX}) {
@@ -714,21 +644,10 @@ public final class PromisesTest {
         due("still flooding", y.look(8), 1);
     }
 
-    /** 2 by 4, a slope of 100 a column, cut between columns 1 and 2: islands at 0, 100 and -55, 45. */
-    private static TornFringes islands() {
-        TornFringes x = sized(2, 4);
-        x.ramp(0, 100);
-        x.cut(2, true);
-        x.cut(10, true);
-        flood(x);
-        due("islands", x.look(7), 2);
-        return x;
-    }
-
     private static void liftAtTheEnds() {
         checks.about("14, ends");
-        TornFringes x = of(2, 2, 127, 127, 127, 127);
-        flood(x);
+        TornFringes x = Maps.of(2, 2, 127, 127, 127, 127);
+        Maps.flood(x);
         due("to the greatest int", x.lift(0, 8421504), true);
         due("height", x.height(3), MAX);
         due("no more", x.lift(0, 1), false);
@@ -739,8 +658,8 @@ public final class PromisesTest {
         due("no more", x.lift(0, -1), false);
         due("far up", x.lift(0, MAX), false);
         due("far down", x.lift(0, MIN), false);
-        TornFringes y = of(2, 2, -127, -127, -127, -127);
-        flood(y);
+        TornFringes y = Maps.of(2, 2, -127, -127, -127, -127);
+        Maps.flood(y);
         due("down", y.lift(0, -8421504), true);
         due("height", y.height(0), -127 - 8421504 * 255);
         due("no more", y.lift(0, -1), false);
@@ -751,7 +670,7 @@ public final class PromisesTest {
 
     private static void settle() {
         checks.about("15");
-        TornFringes x = islands();
+        TornFringes x = Maps.islands();
         int acts = x.look(12);
         due("settle", x.settle(), 1);
         due("lifted", x.height(2), 200);
@@ -769,23 +688,23 @@ public final class PromisesTest {
         due("without islands", y.settle(), 0);
         due("line", y.log(0, 0), 5);
         due("line", y.log(0, 1), 0);
-        TornFringes z = sized(2, 3);
+        TornFringes z = Maps.sized(2, 3);
         z.hide(1, true);
         z.hide(4, true);
-        flood(z);
+        Maps.flood(z);
         due("no fit", z.settle(), 2);
     }
 
     private static void settleOrder() {
         checks.about("15, order");
         // Three islands side by side, 3 by 6: steps of 100, heights of each begin at its phase.
-        TornFringes x = sized(3, 6);
+        TornFringes x = Maps.sized(3, 6);
         x.ramp(0, 100);
         for (int row = 0; row < 3; row++) {
             x.cut(2 * (row * 6 + 1), true);
             x.cut(2 * (row * 6 + 3), true);
         }
-        flood(x);
+        Maps.flood(x);
         due("islands", x.look(7), 3);
         due("lift", x.lift(2, 40), true);
         due("settle", x.settle(), 1);
@@ -798,11 +717,11 @@ public final class PromisesTest {
 
     /** Round the torn ring 0 lie island 0 (pixel 0), 1 (1, 2, 4, 5) and 2 (3, 6, 7, 8): not all can fit. */
     private static void mostEdgesFirst() {
-        TornFringes x = vortices(3, 3, 1);
+        TornFringes x = Maps.vortices(3, 3, 1);
         for (int e : new int[] {0, 1, 6, 9, 11}) {
             x.cut(e, true);
         }
-        flood(x);
+        Maps.flood(x);
         due("islands", x.look(7), 3);
         due("0 and 1", x.fit(0, 1, 1), 1);
         due("0 and 2", x.fit(0, 2, 1), 1);
@@ -824,7 +743,7 @@ public final class PromisesTest {
 
     private static void settleWouldNotFit() {
         checks.about("15, can't be");
-        TornFringes x = islands();
+        TornFringes x = Maps.islands();
         due("up", x.lift(0, 8421504), true);
         // The other one would have to come to 200 and 300 above 2147483520.
         int acts = x.look(12);
@@ -864,12 +783,12 @@ public final class PromisesTest {
 
     private static void text() {
         checks.about("18");
-        TornFringes x = pair();
+        TornFringes x = Maps.pair();
         x.join(0);
         x.cut(3, true);
         x.grade(0, 3);
         x.state(8);
-        tell(x, "00ff807f..01;0a10a0..fe81");
+        Maps.tell(x, "00ff807f..01;0a10a0..fe81");
         due("text", x.text(), 12);
         int[] phases = {127, 127, 0, -1, 0, -127, -118, -112, 32, 0, 126, 1};
         for (int p = 0; p < 12; p++) {
@@ -889,18 +808,10 @@ public final class PromisesTest {
         due("at the end", x.fault(), 0);
         due("the map stays", x.look(1), 6);
         due("acts", x.look(12), 8);
-        due("12 by 12", told(rowsOf(12, 12)).look(12), 1);
-        due("12 by 12", told(rowsOf(12, 12)).pixel(143, 0), 90 - 128);
-        due("2 by 12", told(rowsOf(2, 12)).look(1), 12);
-        due("12 by 2", told(rowsOf(12, 2)).look(0), 12);
-    }
-
-    private static String rowsOf(int rows, int cols) {
-        StringBuilder told = new StringBuilder();
-        for (int row = 0; row < rows; row++) {
-            told.append(row > 0 ? ";" : "").append("5a".repeat(cols));
-        }
-        return told.toString();
+        due("12 by 12", Maps.told(Maps.rowsOf(12, 12)).look(12), 1);
+        due("12 by 12", Maps.told(Maps.rowsOf(12, 12)).pixel(143, 0), 90 - 128);
+        due("2 by 12", Maps.told(Maps.rowsOf(2, 12)).look(1), 12);
+        due("12 by 2", Maps.told(Maps.rowsOf(12, 2)).look(0), 12);
     }
 
     private static void fault() {
@@ -911,8 +822,9 @@ public final class PromisesTest {
             "0000;000000", ".", "..", "..0", ".0", "0.", "00.0", "000", "0000;000.", "000;0000", "00;0000",
             ";0000", "0000;;", "0000;00;0000", "0000;000000;0000", "000000;0000;0000", "00g0;0000",
             "00A0;0000", "0000 0000", "0000;0/00", "0000;0:00", "0000;0`00", "0000;\0", "0000:0000",
-            rowsOf(2, 13), "0000;" + "00".repeat(13), rowsOf(13, 2), rowsOf(12, 2) + ";", rowsOf(12, 2) + "0",
-            rowsOf(12, 12) + ";", "0000;0000;000", "0000;0000;0000\u00ff", "..00;.;00", "00" + "00".repeat(12)};
+            Maps.rowsOf(2, 13), "0000;" + "00".repeat(13), Maps.rowsOf(13, 2),
+            Maps.rowsOf(12, 2) + ";", Maps.rowsOf(12, 2) + "0",
+            Maps.rowsOf(12, 12) + ";", "0000;0000;000", "0000;0000;0000\u00ff", "..00;.;00", "00" + "00".repeat(12)};
         int[] at = {0, 1, 2, 4, 5, 6, 7, 8, 10,
             11, 1, 2, 3, 1, 1, 3, 3, 8, 3, 2,
             0, 5, 7, 11, 11, 2,
@@ -920,17 +832,17 @@ public final class PromisesTest {
             24, 29, 59, 59, 60,
             299, 13, 14, 6, 24};
         for (int i = 0; i < wrong.length; i++) {
-            tell(x, wrong[i]);
+            Maps.tell(x, wrong[i]);
             due("text " + wrong[i], x.text(), -1);
             due("fault of " + wrong[i], x.fault(), at[i]);
             due("the tape is empty", x.look(13), 0);
         }
         due("no acts", x.look(12), 0);
         due("the map stays", x.look(0), 4);
-        tell(x, "0000;0000");
+        Maps.tell(x, "0000;0000");
         due("right", x.text(), 4);
         due("not wrong", x.fault(), -1);
-        tell(x, "0");
+        Maps.tell(x, "0");
         x.text();
         x.undo();
         x.size(3, 3);
@@ -943,7 +855,7 @@ public final class PromisesTest {
 
     private static void pixel() {
         checks.about("20");
-        TornFringes x = pair();
+        TornFringes x = Maps.pair();
         x.join(0);
         x.grade(9, 51);
         x.begin();
@@ -964,10 +876,10 @@ public final class PromisesTest {
 
     private static void height() {
         checks.about("21");
-        TornFringes x = sized(2, 12);
+        TornFringes x = Maps.sized(2, 12);
         x.ramp(0, 100);
         due("not laid", x.height(0), -100000000);
-        flood(x);
+        Maps.flood(x);
         for (int p = 0; p < 24; p++) {
             due("height " + p, x.height(p), p % 12 * 100);
         }
@@ -980,8 +892,8 @@ public final class PromisesTest {
 
     private static void edge() {
         checks.about("22");
-        TornFringes x = pair();
-        flood(x);
+        TornFringes x = Maps.pair();
+        Maps.flood(x);
         due("step 0-1", x.edge(0, 0), 64);
         due("step 0-4", x.edge(1, 0), -64);
         due("step 4-5, wrapped", x.edge(8, 0), -64);
@@ -1003,7 +915,7 @@ public final class PromisesTest {
         x.join(0);
         x.cut(8, true);
         x.cut(0, true);
-        flood(x);
+        Maps.flood(x);
         due("over", x.edge(8, 2), 1);
         due("by hand", x.edge(8, 3), 1);
         due("not over", x.edge(0, 2), 0);
@@ -1021,11 +933,11 @@ public final class PromisesTest {
         due("step all the same", x.edge(8, 0), -64);
         due("not shut", x.edge(1, 1), 0);
         // Of two islands no tear, though their heights do not fit.
-        TornFringes y = islands();
+        TornFringes y = Maps.islands();
         due("no tear between islands", y.edge(2, 5), 0);
         due("no jump over a cut", y.edge(2, 4), 0);
-        // Four torn rings in one column, a cut over the same edge twice.
-        TornFringes z = vortices(12, 12, 1 + 4 * 12 + 3, 1 + 4 * 12 + 5, -(1 + 6 * 12 + 4), -(1 + 7 * 12 + 4));
+        // Two torn rings below one another, both cuts upwards over the same edges.
+        TornFringes z = Maps.vortices(12, 12, 1 + 17, 1 + 29);
         z.join(1);
         int most = 0;
         for (int e = 0; e < 288; e++) {
@@ -1046,7 +958,7 @@ public final class PromisesTest {
     private static void jumpsAtTheEnds() {
         checks.about("22, jumps at the ends of the ints");
         // 0 stands at 2147483521: to 1 it is 127 more, 2147483648, which is no int.
-        TornFringes x = laidAndLifted(of(2, 2, 1, -127, 1, 1), 8421504);
+        TornFringes x = laidAndLifted(Maps.of(2, 2, 1, -127, 1, 1), 8421504);
         due("the last but 126", x.height(0), MAX - 126);
         due("step", x.step(1), 1);
         due("step 0-1", x.edge(0, 0), 127);
@@ -1062,18 +974,18 @@ public final class PromisesTest {
         due("its jumps", x.log(0, 2), x.look(9));
         due("none in thought", x.would(0, 1), 0);
         // The same at the least int: -2147483522 and -127.
-        TornFringes y = laidAndLifted(of(2, 2, -2, 126, -2, -2), -8421504);
+        TornFringes y = laidAndLifted(Maps.of(2, 2, -2, 126, -2, -2), -8421504);
         y.step(1);
         due("step 0-1", y.edge(0, 0), -127);
         due("jump", y.edge(0, 4), 1);
         due("jumps", y.look(9), 1);
         // To the very last ints all fits.
-        TornFringes up = laidAndLifted(of(2, 2, 0, 127, 0, 0), 8421504);
+        TornFringes up = laidAndLifted(Maps.of(2, 2, 0, 127, 0, 0), 8421504);
         up.step(144);
         due("the greatest int", up.height(1), MAX);
         due("no jumps", up.look(9), 0);
         due("none told", up.log(0, 2), 0);
-        TornFringes down = laidAndLifted(of(2, 2, -1, 127, -1, -1), -8421504);
+        TornFringes down = laidAndLifted(Maps.of(2, 2, -1, 127, -1, -1), -8421504);
         down.step(144);
         due("the least int", down.height(1), MIN);
         due("no jumps", down.look(9), 0);
@@ -1082,7 +994,7 @@ public final class PromisesTest {
     private static void tearsAtTheEnds() {
         checks.about("22, tears at the ends of the ints");
         // Laid 0, 2, 3, 1 by steps of 42, 42, 43; the cut edge from 0 to 1 is 127, all of them together.
-        TornFringes x = of(2, 2, 1, -127, 43, 85);
+        TornFringes x = Maps.of(2, 2, 1, -127, 43, 85);
         x.cut(0, true);
         laidAndLifted(x, 8421504);
         due("the rest", x.step(144), 3);
@@ -1096,7 +1008,7 @@ public final class PromisesTest {
         due("told", x.log(0, 2), 1);
         due("none in thought", x.would(0, 2), 0);
         // Where all are ints, it is none.
-        TornFringes y = of(2, 2, 0, 127, 42, 84);
+        TornFringes y = Maps.of(2, 2, 0, 127, 42, 84);
         y.cut(0, true);
         laidAndLifted(y, 8421504);
         y.step(144);
@@ -1108,7 +1020,7 @@ public final class PromisesTest {
 
     private static void charge() {
         checks.about("23");
-        TornFringes x = pair();
+        TornFringes x = Maps.pair();
         due("charge", x.charge(0), 1);
         due("charge", x.charge(4), -1);
         for (int ring : new int[] {1, 2, 5, 6, 8, 9, 10}) {
@@ -1129,7 +1041,7 @@ public final class PromisesTest {
 
     private static void torn() {
         checks.about("24");
-        TornFringes x = pair();
+        TornFringes x = Maps.pair();
         due("how many", x.torn(-1), 2);
         due("first", x.torn(0), 0);
         due("second", x.torn(1), 4);
@@ -1142,7 +1054,7 @@ public final class PromisesTest {
 
     private static void far() {
         checks.about("25");
-        TornFringes x = sized(5, 7);
+        TornFringes x = Maps.sized(5, 7);
         due("far", x.far(0, 26), 3 + 5);
         due("far", x.far(26, 0), 3 + 5);
         due("far", x.far(5, 7), 1 + 5);
@@ -1155,14 +1067,14 @@ public final class PromisesTest {
         for (int[] row : none) {
             due("none", x.far(row[0], row[1]), -1);
         }
-        TornFringes y = sized(12, 12);
+        TornFringes y = Maps.sized(12, 12);
         due("midst", y.far(5 * 12 + 5, -1), 6);
         due("most", y.far(0, 10 * 12 + 10), 20);
     }
 
     private static void joined() {
         checks.about("26");
-        TornFringes x = pair();
+        TornFringes x = Maps.pair();
         due("none yet", x.joined(-1, 0), 0);
         due("none yet", x.joined(0, 0), -1000);
         x.join(0);
@@ -1184,7 +1096,7 @@ public final class PromisesTest {
 
     private static void island() {
         checks.about("27");
-        TornFringes x = islands();
+        TornFringes x = Maps.islands();
         int[][] due = {{0, 0, 0}, {0, 1, 4}, {0, 2, 0}, {0, 3, 2}, {1, 0, 2}, {1, 1, 4}, {1, 2, 0}, {1, 3, 2}};
         for (int[] row : due) {
             due("island " + row[0] + " " + row[1], x.island(row[0], row[1]), row[2]);
@@ -1203,13 +1115,13 @@ public final class PromisesTest {
         due("the edges to what is laid alone", x.island(1, 3), 1);
         x.hide(3, true);
         x.hide(5, true);
-        flood(x);
+        Maps.flood(x);
         due("shut edges do not count", x.island(0, 3), 1);
     }
 
     private static void fit() {
         checks.about("28");
-        TornFringes x = islands();
+        TornFringes x = Maps.islands();
         due("turns", x.fit(0, 1, 0), 1);
         due("edges", x.fit(0, 1, 1), 2);
         due("turns", x.fit(1, 0, 0), -1);
@@ -1225,11 +1137,11 @@ public final class PromisesTest {
         due("farther", x.fit(0, 1, 0), 16000001);
         due("farther", x.fit(1, 0, 0), -16000001);
         // Heights 0, 127, -127 in three islands.
-        TornFringes y = of(2, 2, 0, 127, 0, -127);
+        TornFringes y = Maps.of(2, 2, 0, 127, 0, -127);
         y.cut(0, true);
         y.cut(4, true);
         y.cut(3, true);
-        flood(y);
+        Maps.flood(y);
         due("three islands", y.look(7), 3);
         due("turns", y.fit(0, 1, 0), 0);
         due("turns", y.fit(0, 2, 0), 0);
@@ -1242,11 +1154,11 @@ public final class PromisesTest {
 
     /** Two columns cut apart, the left one climbing a turn down the rows, the right one level. */
     private static void tieOfTurns() {
-        TornFringes x = of(6, 2, 0, 0, 100, 0, -55, 0, -45, 0, 55, 0, 0, 0);
+        TornFringes x = Maps.of(6, 2, 0, 0, 100, 0, -55, 0, -45, 0, 55, 0, 0, 0);
         for (int row = 0; row < 6; row++) {
             x.cut(4 * row, true);
         }
-        flood(x);
+        Maps.flood(x);
         // The left column's heights: 0, 100, 200, 210, 310, 255; the right one's 0.
         due("islands", x.look(7), 2);
         due("left", x.height(4), 200);
@@ -1258,7 +1170,7 @@ public final class PromisesTest {
         x.hide(9, true);
         x.cut(10, true);
         x.cut(10, false);
-        flood(x);
+        Maps.flood(x);
         due("the right one falls apart", x.look(7), 3);
         due("two of each", x.fit(0, 1, 1), 2);
         due("nearest 0", x.fit(0, 1, 0), 0);
@@ -1268,12 +1180,12 @@ public final class PromisesTest {
     }
 
     private static void threeTurns() {
-        TornFringes y = sized(6, 2);
+        TornFringes y = Maps.sized(6, 2);
         for (int row = 0; row < 6; row++) {
             y.phase(2 * row, row * 102);
             y.cut(4 * row, true);
         }
-        flood(y);
+        Maps.flood(y);
         due("left", y.height(10), 510);
         due("lift", y.lift(1, 1), true);
         for (int p : new int[] {3, 5, 7, 9}) {
@@ -1286,7 +1198,7 @@ public final class PromisesTest {
 
     /** Just two edges between the islands, which lack 1 and -1. */
     private static void positiveFirst() {
-        TornFringes x = sized(6, 3);
+        TornFringes x = Maps.sized(6, 3);
         for (int row = 0; row < 6; row++) {
             x.phase(3 * row, row * 102);
             x.cut(6 * row, true);
@@ -1294,7 +1206,7 @@ public final class PromisesTest {
                 x.hide(3 * row + 1, true);
             }
         }
-        flood(x);
+        Maps.flood(x);
         due("two islands", x.look(7), 2);
         due("lift", x.lift(1, 1), true);
         due("left", x.height(15), 510);
@@ -1308,7 +1220,7 @@ public final class PromisesTest {
 
     private static void loop() {
         checks.about("29");
-        TornFringes x = pair();
+        TornFringes x = Maps.pair();
         due("round ring 0", x.loop(0, 1, 0, 1), 1);
         due("round ring 4", x.loop(1, 2, 0, 1), -1);
         due("round both", x.loop(0, 2, 0, 1), 0);
@@ -1325,7 +1237,7 @@ public final class PromisesTest {
         due("hidden on it", x.loop(0, 1, 2, 3), -1000);
         due("hidden on it", x.loop(0, 2, 0, 2), -1000);
         due("hidden outside", x.loop(0, 1, 0, 1), 1);
-        TornFringes y = vortices(12, 12, 1 + 30, 1 + 60, 1 + 90, -(1 + 20));
+        TornFringes y = Maps.vortices(12, 12, 1 + 30, 1 + 60, 1 + 90, -(1 + 20));
         due("four", y.loop(0, 11, 0, 11), 2);
         // Without the last column, with ring 20 (row 1, column 8) outside.
         due("three", y.loop(2, 11, 0, 11), 3);
@@ -1335,7 +1247,7 @@ public final class PromisesTest {
 
     private static void sum() {
         checks.about("30");
-        TornFringes x = islands();
+        TornFringes x = Maps.islands();
         due("sum", x.sum(0), 200);
         due("sum", x.sum(1), -20);
         for (int none : new int[] {-1, 2, MIN, MAX}) {
@@ -1349,7 +1261,7 @@ public final class PromisesTest {
 
     private static void power() {
         checks.about("31");
-        TornFringes x = islands();
+        TornFringes x = Maps.islands();
         // Heights 0, 100, -55, 45, twice.
         due("power", x.power(0, 1), 2 * (10000 + 3025 + 2025));
         due("power", x.power(5, 3), 6 * (25 + 9025 + 3600 + 1600));
@@ -1361,11 +1273,11 @@ public final class PromisesTest {
         due("beyond", x.power(0, Long.MAX_VALUE / square + 1), -1);
         due("far level", x.power(MAX, 0), -1);
         due("far level", x.power(MIN, 0), -1);
-        TornFringes y = of(2, 2);
+        TornFringes y = Maps.of(2, 2);
         y.hide(1, true);
         y.hide(2, true);
         y.hide(3, true);
-        flood(y);
+        Maps.flood(y);
         due("one alone", y.power(MAX, 1), (long) MAX * MAX);
         due("one alone", y.power(MIN, 1), (long) MIN * MIN);
         due("one alone, twice", y.power(MIN, 2), -1);
@@ -1378,7 +1290,7 @@ public final class PromisesTest {
         TornFringes z = new TornFringes();
         due("none laid", z.power(MIN, Long.MAX_VALUE), 0);
         due("none laid", z.power(5, -1), -1);
-        flood(z);
+        Maps.flood(z);
         due("all together beyond", z.power(MIN, 0), -1);
         due("all together beyond", z.power(MAX, 0), -1);
         greatestPower();
@@ -1388,14 +1300,14 @@ public final class PromisesTest {
     private static void greatestPower() {
         int level = -1600000000;
         long[] roots = {3037000499L, 76994, 23, 671};
-        TornFringes x = sized(2, 2);
+        TornFringes x = Maps.sized(2, 2);
         for (int p = 0; p < 4; p++) {
             x.phase(p, (int) (roots[p] + level));
         }
         for (int e : new int[] {0, 1, 3, 4}) {
             x.cut(e, true);
         }
-        flood(x);
+        Maps.flood(x);
         for (int p = 0; p < 4; p++) {
             long lacking = roots[p] + level - x.height(p);
             due("lift", x.lift(p, (int) (lacking / 255)), true);
@@ -1410,7 +1322,7 @@ public final class PromisesTest {
 
     private static void range() {
         checks.about("32");
-        TornFringes x = islands();
+        TornFringes x = Maps.islands();
         due("least", x.range(0), -55);
         due("greatest", x.range(1), 100);
         due("first least", x.range(2), 2);
@@ -1421,15 +1333,15 @@ public final class PromisesTest {
         x.begin();
         due("none laid", x.range(0), -100000000);
         due("none laid", x.range(3), -100000000);
-        TornFringes y = of(2, 2, 5, 3, 5, 3);
-        flood(y);
+        TornFringes y = Maps.of(2, 2, 5, 3, 5, 3);
+        Maps.flood(y);
         due("first least", y.range(2), 1);
         due("first greatest", y.range(3), 0);
     }
 
     private static void between() {
         checks.about("33");
-        TornFringes x = islands();
+        TornFringes x = Maps.islands();
         due("all", x.between(MIN, MAX), 8);
         due("from on", x.between(45, 100), 4);
         due("up to", x.between(-55, -55), 2);
@@ -1441,8 +1353,8 @@ public final class PromisesTest {
 
     private static void areas() {
         checks.about("34");
-        TornFringes x = of(3, 4, 9, 0, 9, 9, 0, 0, 0, 9, 9, 9, 0, 0);
-        flood(x);
+        TornFringes x = Maps.of(3, 4, 9, 0, 9, 9, 0, 0, 0, 9, 9, 9, 0, 0);
+        Maps.flood(x);
         due("areas", x.areas(9, 0), 3);
         due("greatest", x.areas(9, 1), 3);
         due("least pixel", x.areas(9, 2), 2);
@@ -1455,31 +1367,31 @@ public final class PromisesTest {
             due("another", x.areas(9, what), -1000);
         }
         x.phase(3, 0);
-        flood(x);
+        Maps.flood(x);
         due("as great: the least", x.areas(9, 2), 8);
         x.phase(9, 0);
-        flood(x);
+        Maps.flood(x);
         due("ones", x.areas(9, 1), 1);
         due("as great: the least", x.areas(9, 2), 0);
         due("four", x.areas(9, 0), 4);
-        TornFringes y = islands();
+        TornFringes y = Maps.islands();
         y.settle();
         due("over cuts", y.areas(100, 1), 6);
         y.begin();
         due("none laid", y.areas(MIN, 0), 0);
         due("none laid", y.areas(MIN, 2), -1);
         // Hidden ones part areas.
-        TornFringes z = sized(2, 3);
+        TornFringes z = Maps.sized(2, 3);
         z.hide(1, true);
         z.hide(4, true);
-        flood(z);
+        Maps.flood(z);
         due("parted", z.areas(0, 0), 2);
     }
 
     private static void peak() {
         checks.about("35");
-        TornFringes x = of(3, 4, 9, 0, 8, 9, 0, 0, 0, 9, 3, 0, 0, 0);
-        flood(x);
+        TornFringes x = Maps.of(3, 4, 9, 0, 8, 9, 0, 0, 0, 9, 3, 0, 0, 0);
+        Maps.flood(x);
         due("how many", x.peak(-1), 2);
         due("first", x.peak(0), 0);
         due("second", x.peak(1), 8);
@@ -1492,24 +1404,24 @@ public final class PromisesTest {
         x.step(1);
         due("alone so far", x.peak(0), 0);
         // Over a cut a higher one counts, over a shut edge not.
-        TornFringes y = islands();
+        TornFringes y = Maps.islands();
         due("100 beside -55", y.peak(-1), 0);
         y.phase(1, 101);
-        flood(y);
+        Maps.flood(y);
         due("one", y.peak(-1), 1);
         due("it", y.peak(0), 1);
-        TornFringes z = of(2, 2, 5, 9);
+        TornFringes z = Maps.of(2, 2, 5, 9);
         z.hide(1, true);
-        flood(z);
+        Maps.flood(z);
         due("hidden ones do not count", z.peak(0), 0);
     }
 
     private static void way() {
         checks.about("36");
-        TornFringes x = pair();
+        TornFringes x = Maps.pair();
         x.join(0);
         due("not laid", x.way(9, 0), -1);
-        flood(x);
+        Maps.flood(x);
         int[] way = {9, 5, 1, 0};
         for (int i = 0; i < 4; i++) {
             due("way " + i, x.way(9, i), way[i]);
@@ -1524,9 +1436,9 @@ public final class PromisesTest {
 
     private static void would() {
         checks.about("37");
-        TornFringes x = pair();
+        TornFringes x = Maps.pair();
         x.join(0);
-        flood(x);
+        Maps.flood(x);
         int lines = x.look(14);
         int[] nearest = {1, 0, 2, 2, 14};
         int[] least = {1, 0, 1, 1, 0};
@@ -1554,14 +1466,14 @@ public final class PromisesTest {
         }
         due("by hand", x.would(0, 0), 2);
         // Lifted heights are others.
-        flood(x);
+        Maps.flood(x);
         x.lift(0, 1);
         due("lifted", x.would(0, 4), x.island(0, 1));
     }
 
     private static void apart() {
         checks.about("38");
-        TornFringes x = sized(2, 4);
+        TornFringes x = Maps.sized(2, 4);
         x.cut(2, true);
         due("together", x.apart(0), 1);
         due("apart", x.apart(10), 2);
@@ -1576,11 +1488,11 @@ public final class PromisesTest {
         due("alone by hidden ones", x.apart(9 + 1), 2);
         due("row below", x.apart(8), 2);
         // Cuts of joining count.
-        TornFringes y = vortices(2, 4, 1 + 1);
+        TornFringes y = Maps.vortices(2, 4, 1 + 1);
         y.join(0);
         due("over 1-2", y.edge(2, 2), 1);
         due("apart", y.apart(10), 2);
-        due("all hidden", told("....;....").apart(0), 0);
+        due("all hidden", Maps.told("....;....").apart(0), 0);
     }
 
     // ---- 39 to 42 ----
@@ -1621,19 +1533,19 @@ public final class PromisesTest {
 
     private static void undoOfLaid() {
         checks.about("39, what is laid");
-        TornFringes x = sized(3, 4);
+        TornFringes x = Maps.sized(3, 4);
         x.ramp(30, 50);
         x.cut(4, true);
         x.cut(12, true);
         x.cut(20, true);
         x.grade(11, 70);
-        flood(x);
+        Maps.flood(x);
         x.lift(1, 3);
         int[][] was = laidOf(x);
         x.grade(0, 99);
         x.grade(6, 99);
         x.cut(9, true);
-        flood(x);
+        Maps.flood(x);
         x.lift(0, 7);
         x.undo();
         x.undo();
@@ -1659,7 +1571,7 @@ public final class PromisesTest {
 
     private static void undoOfEachAct() {
         checks.about("39, each act");
-        TornFringes x = pair();
+        TornFringes x = Maps.pair();
         x.join(0);
         x.begin();
         x.step(16);
@@ -1669,11 +1581,11 @@ public final class PromisesTest {
         x.ramp(1, 2);
         x.noise(3);
         x.cut(5, true);
-        flood(x);
+        Maps.flood(x);
         x.lift(0, 2);
         x.settle();
         due("acts", x.look(12), 12);
-        tell(x, "0000;0000;0000");
+        Maps.tell(x, "0000;0000;0000");
         x.text();
         x.size(5, 5);
         due("acts", x.look(12), 12);
@@ -1738,7 +1650,7 @@ public final class PromisesTest {
 
     private static void image() {
         checks.about("41");
-        TornFringes x = islands();
+        TornFringes x = Maps.islands();
         due("none", x.image(false), false);
         x.state(5);
         x.lift(1, 2);
@@ -1775,7 +1687,7 @@ public final class PromisesTest {
         due("back", x.image(false), true);
         due("columns", x.look(1), 2);
         // An image taken while flooding goes on flooding.
-        TornFringes y = pair();
+        TornFringes y = Maps.pair();
         y.join(1);
         y.begin();
         y.step(4);
@@ -1791,7 +1703,7 @@ public final class PromisesTest {
 
     private static void look() {
         checks.about("42");
-        TornFringes x = pair();
+        TornFringes x = Maps.pair();
         x.join(0);
         x.hide(15, true);
         x.cut(28, true);
@@ -1810,10 +1722,10 @@ public final class PromisesTest {
         x.step(144);
         due("jumps", x.look(9), 0);
         due("tears", x.look(10), 1);
-        due("charge", vortices(4, 4, 1 + 5).look(4), 1);
-        due("charge", vortices(4, 4, -(1 + 5)).look(4), -1);
-        TornFringes y = pair();
-        flood(y);
+        due("charge", Maps.vortices(4, 4, 1 + 5).look(4), 1);
+        due("charge", Maps.vortices(4, 4, -(1 + 5)).look(4), -1);
+        TornFringes y = Maps.pair();
+        Maps.flood(y);
         int jumps = 0;
         for (int e = 0; e < 32; e++) {
             jumps += y.edge(e, 4) == 1 ? 1 : 0;
