@@ -411,7 +411,7 @@ public final class TornFringes {
         }
         seams.gather(now.chart, now.lay);
         seams.findFit(i, j);
-        if (seams.fitEdges == 0 || what < 0 || what > 1) {
+        if (seams.fitEdges == NONE || what < 0 || what > 1) {
             return NO_FIT;
         }
         return what == 0 ? seams.fitTurns : seams.fitEdges;
@@ -708,11 +708,11 @@ public final class TornFringes {
         }
 
         int rowOf(int p) {
-            return p / cols;
+            return cols > 0 ? p / cols : 0;
         }
 
         int colOf(int p) {
-            return p % cols;
+            return cols > 0 ? p % cols : 0;
         }
 
         boolean hasPixel(int p) {
@@ -1499,6 +1499,7 @@ public final class TornFringes {
         private static final int NO_TURNS = Integer.MIN_VALUE;
 
         int fitTurns;
+        // NONE: no edge is between both islands.
         int fitEdges;
         private int count;
         private final int[] pairs;
@@ -1572,8 +1573,9 @@ public final class TornFringes {
         }
 
         private void fitWithin(int start, int end, int sign) {
+            // Should no turns fit any edge, all fit as few of them, and 0 is the nearest 0.
             fitTurns = 0;
-            fitEdges = 0;
+            fitEdges = start < end ? 0 : NONE;
             for (int s = start; s < end; s++) {
                 int edges = 0;
                 for (int t = s; t < end && turns[s] != NO_TURNS; t++) {
@@ -1621,7 +1623,7 @@ public final class TornFringes {
         /** The first seam of the two islands that fit best, fitTurns being theirs; NONE without any. */
         private int findBest() {
             int best = NONE;
-            int bestEdges = 0;
+            int bestEdges = NONE;
             int bestTurns = 0;
             for (int s = 0; s < count; s++) {
                 boolean isFirst = s == 0 || pairs[s] != pairs[s - 1];

@@ -320,9 +320,10 @@ final class Model {
             return count;
         }
 
-        /** The turns and by how many edges, or null. */
+        /** The turns and by how many edges, or null without an edge between both. */
         long[] fit(int i, int j) {
             List<Long> all = new ArrayList<>();
+            long between = 0;
             for (int e = 0; e < 2 * n(); e++) {
                 if (!edge(e) || shut(e) || !laid[e / 2] || !laid[other(e)]) {
                     continue;
@@ -331,18 +332,26 @@ final class Model {
                     int a = turn == 0 ? e / 2 : other(e);
                     int b = turn == 0 ? other(e) : e / 2;
                     long lack = step(a, b) + (long) height[a] - height[b];
-                    if (isle[a] == i && isle[b] == j && lack % 255 == 0) {
+                    if (isle[a] != i || isle[b] != j) {
+                        continue;
+                    }
+                    between++;
+                    if (lack % 255 == 0) {
                         all.add(lack / 255);
                     }
                 }
             }
-            long[] best = null;
+            if (between == 0) {
+                return null;
+            }
+            // All other turns than these and 0 fit no edge and are farther from 0.
+            long[] best = {0, java.util.Collections.frequency(all, 0L)};
             for (long k : all) {
                 long count = 0;
                 for (long other : all) {
                     count += k == other ? 1 : 0;
                 }
-                if (best == null || count > best[1] || count == best[1] && Math.abs(k) < Math.abs(best[0])
+                if (count > best[1] || count == best[1] && Math.abs(k) < Math.abs(best[0])
                     || count == best[1] && k == -best[0] && k > 0) {
                     best = new long[] {k, count};
                 }

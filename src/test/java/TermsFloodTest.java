@@ -30,6 +30,7 @@ public final class TermsFloodTest {
         tears();
         fitNearestZero();
         fitBetweenNone();
+        fitThatNoTurnsBring();
         settleToTheEnds();
         settleAllOrNothing();
         settleOneAndNone();
@@ -626,6 +627,39 @@ public final class TermsFloodTest {
         y.step(1);
         due("begun", y.fit(0, 1, 0), 1);
         due("by one so far", y.fit(0, 1, 1), 1);
+    }
+
+    /** Over its one edge a height came round, so no turns fit it; it is there, though. */
+    private static void fitThatNoTurnsBring() {
+        checks.about("FIT: NONE - 999999999 if there is no such EDGE; the most that have it may be none");
+        TornFringes x = Maps.of(2, 3, 1, -127, 0, 0, 0, 100);
+        x.hide(3, true);
+        x.hide(4, true);
+        x.cut(2, true);
+        x.cut(5, true);
+        x.begin();
+        x.step(1);
+        x.lift(0, UP);
+        due("the rest", x.step(144), 3);
+        due("islands", x.look(7), 3);
+        due("beyond the greatest int", x.edge(0, 4), 1);
+        due("edges out", x.island(0, 3), 1);
+        due("of all k, each for none, the nearest 0", x.fit(0, 1, 0), 0);
+        due("by none", x.fit(0, 1, 1), 0);
+        due("turned", x.fit(1, 0, 0), 0);
+        due("turned, by none", x.fit(1, 0, 1), 0);
+        due("another what", x.fit(0, 1, 2), -1000000000);
+        due("no edge", x.fit(0, 2, 0), -1000000000);
+        due("no edge", x.fit(0, 2, 1), -1000000000);
+        x.lift(2, 3);
+        due("lacking", x.fit(1, 2, 0), -3);
+        due("settled by one edge, then by none", x.settle(), 1);
+        due("line", x.log(0, 1), 1);
+        due("lifted", x.height(5), 100);
+        due("turns", x.island(2, 2), 0);
+        due("not lifted", x.height(2), 0);
+        due("turns", x.island(1, 2), 0);
+        due("turns", x.island(0, 2), UP);
     }
 
     /** 2 by 2, two columns cut apart, of these phases. */
